@@ -408,6 +408,7 @@ public final class LockElision {
 
     private int setOf(int line) {
         // The lock line is in set 0 by decree: with three sets its number alone would say 1.
+        // The constructor lets no number of sets below 1 in, so it can always divide.
         return line == LOCK_LINE ? 0 : line % sets;
     }
 

@@ -7,6 +7,8 @@ public final class SpeculationTest {
     public static void main(String[] args) {
         footprintByLine();
         ownBuffer();
+        abortEmptiesTheBuffer();
+        commitEmptiesTheBuffer();
         conflicts();
         conflictByIndexedAccess();
         requesterWinsOverAllOthers();
@@ -60,6 +62,43 @@ public final class SpeculationTest {
         CHECK.due("memory", x.peek(4), 40);
         CHECK.due("commit", x.step(1), LockElision.STEP_COMMITTED);
         CHECK.due("memory after the commit", x.peek(4), 0);
+    }
+
+    /** The first try stores 9 and is aborted by a flag; the second try sees the flag, leaves the store out and loads. */
+    private static void abortEmptiesTheBuffer() {
+        for (int core = 0; core < 4; core++) {
+            for (int addr = 0; addr < 64; addr++) {
+                int flag = (addr + 32) % 64;
+                LockElision x = new LockElision(4, 4, 2);
+                x.poke(addr, 5);
+                Sections.speculate(x, core, 4, Sections.load(1, flag), Sections.jnz(1, 3), Sections.loadi(0, 9),
+                        Sections.store(0, addr), Sections.load(2, addr));
+                int other = (core + 1) % 4;
+                Sections.speculate(x, other, 2, Sections.loadi(0, 1), Sections.store(0, flag));
+                x.step(other);
+                CHECK.due("the second try of core " + core, x.step(core), LockElision.STEP_BEGAN);
+                Sections.steps(x, core, 3);
+                CHECK.due("a load of " + addr + " in the second try", x.reg(core, 2), 5);
+                CHECK.due("its commit", x.step(core), LockElision.STEP_COMMITTED);
+                CHECK.due("peek(" + addr + ")", x.peek(addr), 5);
+            }
+        }
+    }
+
+    private static void commitEmptiesTheBuffer() {
+        for (int core = 0; core < 4; core++) {
+            LockElision x = new LockElision(4, 4, 2);
+            for (int addr = 0; addr < 64; addr++) {
+                Sections.speculate(x, core, 2, Sections.loadi(0, 9), Sections.store(0, addr));
+                CHECK.due("commit", x.step(core), LockElision.STEP_COMMITTED);
+                CHECK.due("peek(" + addr + ") after the commit", x.peek(addr), 9);
+                x.poke(addr, 4);
+                Sections.speculate(x, core, 1, Sections.load(1, addr));
+                CHECK.due("a load of " + addr + " in the next section", x.reg(core, 1), 4);
+                x.step(core);
+                CHECK.due("peek(" + addr + ") after the next commit", x.peek(addr), 4);
+            }
+        }
     }
 
     /** Every pair of what the victim holds and what the requester does, on the same and on the next line. */
@@ -161,35 +200,36 @@ public final class SpeculationTest {
         for (int sets = 1; sets <= 4; sets++) {
             for (int ways = 1; ways <= 4; ways++) {
                 for (int set = 0; set < sets; set++) {
-                    fillSet(ways, sets, set);
+                    for (int core = 0; core < 4; core++) {
+                        fillSet(core, ways, sets, set);
+                    }
                 }
             }
         }
     }
 
-    private static void fillSet(int ways, int sets, int set) {
+    private static void fillSet(int core, int ways, int sets, int set) {
         LockElision x = new LockElision(ways, sets, 7);
         int free = set == 0 ? ways - 1 : ways;
         int room = 0;
         for (int line = set; line < 16; line += sets) {
             room++;
         }
-        x.clearProgram(0);
         int appended = 0;
         for (int line = set; line < 16 && appended <= free; line += sets) {
-            x.append(0, LockElision.OP_LOAD, 0, line * 4 + 3);
+            x.append(core, LockElision.OP_LOAD, 0, line * 4 + 3);
             appended++;
         }
-        x.enter(0);
-        x.step(0);
-        String what = "ways " + ways + ", sets " + sets + ", set " + set;
+        x.enter(core);
+        x.step(core);
+        String what = "core " + core + ", ways " + ways + ", sets " + sets + ", set " + set;
         for (int i = 0; i < free && i < room; i++) {
-            CHECK.due(what + ", line " + i, x.step(0), LockElision.STEP_EXECUTED);
+            CHECK.due(what + ", line " + i, x.step(core), LockElision.STEP_EXECUTED);
         }
         if (room > free) {
-            CHECK.due(what + ", overflow", x.step(0), LockElision.STEP_ABORTED);
-            CHECK.due(what + ", cause", x.lastCause(0), LockElision.CAUSE_CAPACITY);
-            CHECK.due(what + ", state", x.state(0), LockElision.STATE_WAITLOCK);
+            CHECK.due(what + ", overflow", x.step(core), LockElision.STEP_ABORTED);
+            CHECK.due(what + ", cause", x.lastCause(core), LockElision.CAUSE_CAPACITY);
+            CHECK.due(what + ", state", x.state(core), LockElision.STATE_WAITLOCK);
         }
     }
 
@@ -263,8 +303,8 @@ public final class SpeculationTest {
         x.step(1);
         CHECK.due("after the conflict", x.lastCause(0), LockElision.CAUSE_CONFLICT);
         x.step(0);
-        Sections.lock(x, 2);
         // Core 2 begins its own section while core 0 speculates, then takes the lock.
+        Sections.lock(x, 2);
         CHECK.due("after the lock", x.lastCause(0), LockElision.CAUSE_LOCK);
         CHECK.due("attempts after two aborts", x.attempts(0), 2);
         CHECK.due("still READY", x.state(0), LockElision.STATE_READY);

@@ -131,6 +131,7 @@ public final class StepStateTest {
                     int falls = retries == 0 ? LockElision.STATE_WAITLOCK : LockElision.STATE_READY;
                     CHECK.due("state of an aborted core", x.state(core), falls);
                     CHECK.due("its cause", x.lastCause(core), LockElision.CAUSE_LOCK);
+                    CHECK.due("its code", x.abortCode(core), 0);
                     CHECK.due("its attempts", x.attempts(core), 1);
                     CHECK.due("its aborts", x.count(core, LockElision.COUNT_ABORTS), 1);
                     CHECK.due("its pc", x.pc(core), 0);
