@@ -92,6 +92,15 @@ final class Sections {
         }
     }
 
+    /** Steps as long as instructions are executed and gives the first other answer. */
+    static int runOn(LockElision x, int core) {
+        int answer = LockElision.STEP_EXECUTED;
+        for (int i = 0; i <= LockElision.PROGRAM_MAX && answer == LockElision.STEP_EXECUTED; i++) {
+            answer = x.step(core);
+        }
+        return answer;
+    }
+
     /** Every answer that the looking methods can give for inputs in range. */
     static int[] seen(LockElision x) {
         int[] all = new int[part(4)];
@@ -118,6 +127,22 @@ final class Sections {
             }
         }
         return all;
+    }
+
+    /** Writes an abort of the core, its first since enter, into what is due. */
+    static void fallen(int[] want, int core, int cause, int state) {
+        int at = part(core);
+        want[at + STATE] = state;
+        want[at + PC] = 0;
+        want[at + ATTEMPTS] = 1;
+        want[at + CAUSE] = cause;
+        for (int r = 0; r < 4; r++) {
+            want[at + REG + r] = 0;
+        }
+        want[at + COUNT + LockElision.COUNT_ABORTS]++;
+        for (int line = 0; line <= 16; line++) {
+            want[at + LINE + line] = 0;
+        }
     }
 
     /** A test that can't be set up is a failed test. */
