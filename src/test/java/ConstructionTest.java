@@ -101,7 +101,11 @@ public final class ConstructionTest {
                     LockElision twin = new LockElision(ways < 1 ? 1 : 4, sets < 1 ? 1 : 4, retries < 0 ? 0 : 7);
                     giveMeetingPrograms(x);
                     giveMeetingPrograms(twin);
-                    Twins.sameFuture(CHECK, "new LockElision(" + ways + ", " + sets + ", " + retries + ")", x, twin);
+                    String what = "new LockElision(" + ways + ", " + sets + ", " + retries + ")";
+                    for (int i = 0; i < 400; i++) {
+                        CHECK.due(what + ", step(" + i % 4 + ")", x.step(i % 4), twin.step(i % 4));
+                    }
+                    Twins.sameFuture(CHECK, what, x, twin);
                 }
             }
         }

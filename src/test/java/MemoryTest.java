@@ -97,13 +97,13 @@ public final class MemoryTest {
             CHECK.due("poke(" + addr + ", -3)", x.poke(addr, -3), true);
             CHECK.same("poke(" + addr + ", -3)", Sections.seen(x), want);
             LockElision twin = waiting();
-            Sections.must(x.poke(addr, 0));
+            Sections.must(x.poke(addr, 1000 + addr));
             Twins.sameFuture(CHECK, "a poke of " + addr + " and back", x, twin);
         }
     }
 
     private static LockElision waiting() {
-        LockElision x = new LockElision(4, 4, 2);
+        LockElision x = thousands();
         Sections.start(x, 0, Sections.load(0, 4), Sections.addi(0, 1), Sections.store(0, 4));
         Sections.speculate(x, 1, 2, Sections.loadi(2, 8), Sections.store(2, 63), Sections.xabort(6));
         Sections.must(x.step(1) == LockElision.STEP_ABORTED);

@@ -1,7 +1,10 @@
 import java.util.List;
 import java.util.function.Supplier;
 
-/** Objects with a past, for tests that ask what a call changes; together they have a core in every state. */
+/**
+ * Objects with a past, for tests that ask what a call changes; together they have a core in every state. No looking method
+ * is called on them, so that a look that changed something could not hide.
+ */
 final class Pasts {
     private Pasts() {
     }
@@ -26,7 +29,6 @@ final class Pasts {
         x.step(2);
         Sections.speculate(x, 1, 5, Sections.loadi(1, 21), Sections.loadi(3, 23), Sections.load(0, 60),
                 Sections.store(1, 5), Sections.store(3, 0), Sections.loadi(0, 0));
-        states(x, LockElision.STATE_IDLE, LockElision.STATE_SPEC, LockElision.STATE_WAITLOCK, LockElision.STATE_READY);
         return x;
     }
 
@@ -41,13 +43,6 @@ final class Pasts {
         Sections.start(x, 3, Sections.load(2, 4), Sections.store(2, 8), Sections.store(2, 63));
         Sections.lock(x, 0, Sections.loadi(0, 9), Sections.store(0, 63), Sections.addi(0, 1), Sections.store(0, 62));
         Sections.steps(x, 0, 2);
-        states(x, LockElision.STATE_LOCKED, LockElision.STATE_IDLE, LockElision.STATE_WAITLOCK, LockElision.STATE_READY);
         return x;
-    }
-
-    private static void states(LockElision x, int... want) {
-        for (int core = 0; core < 4; core++) {
-            Sections.must(x.state(core) == want[core]);
-        }
     }
 }

@@ -71,7 +71,6 @@ final class Sections {
         start(x, core, program);
         must(x.step(core) == LockElision.STEP_BEGAN);
         steps(x, core, pc);
-        must(x.state(core) == LockElision.STATE_SPEC);
     }
 
     /** Takes the lock on the core by an explicit abort; the program's pc stands at 1 after it. */

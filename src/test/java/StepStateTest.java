@@ -44,6 +44,14 @@ public final class StepStateTest {
         keepsAll(Pasts::locked, 1, LockElision.STEP_IDLE);
         keepsAll(() -> appended(Pasts.speculating(), 0), 0, LockElision.STEP_IDLE);
         keepsAll(() -> appended(Pasts.locked(), 1), 1, LockElision.STEP_IDLE);
+        for (int length = 0; length <= 16; length++) {
+            LockElision x = Pasts.fresh();
+            for (int i = 0; i < length; i++) {
+                appended(x, 2);
+            }
+            CHECK.due("a step with a program of " + length, x.step(2), LockElision.STEP_IDLE);
+            CHECK.due("append after it", x.append(2, LockElision.OP_LOADI, 0, 9), length < 16 ? length + 1 : -1);
+        }
     }
 
     private static LockElision appended(LockElision x, int core) {
