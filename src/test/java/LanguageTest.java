@@ -43,8 +43,13 @@ public final class LanguageTest {
         never(code, "rules 2 and 3", "\\b(?!LockElision\\b)[A-Z]\\w*[a-z]\\w*\\b|\"");
         never(code, "rule 3", "\\b(getClass|hashCode|equals|toString|notify|notifyAll|wait|clone)\\b");
         never(code, "rule 4", "\\bnull\\b|\\]\\s*\\[");
-        never(code, "rule 5", "\\bstatic\\s*\\{|\\bstatic\\s+(final\\s+)?\\w+\\[\\]\\s*\\w+\\s*=");
+        never(code, "rule 4: a method answers an array", "\\]\\s+\\w+\\s*\\(");
+        never(code, "rule 5", "\\bstatic\\s*\\{|\\bstatic\\s+(?!final (int|long) [A-Z_]+ = )[^;({]*=");
         never(code, "rule 6", "\\b(throw|throws|try|catch|finally|synchronized|assert|instanceof)\\b|->|::");
+        CHECK.due("rule 7: every divisor is a constant or the clamped number of sets", count(code, "[/%]"),
+                count(code, " / LINE_WORDS;| % sets;"));
+        CHECK.due("rule 8: every loop counts up to a constant", count(code, "\\b(for|while|do)\\b"),
+                count(code, "\\bfor \\(int (\\w+) = 0; \\1 < [A-Z]+; \\1\\+\\+\\) \\{"));
         CHECK.due("rule 1: classes", count(code, "\\bclass\\b"), 1);
         CHECK.due("rule 4: every new is a field's initialiser", count(code, "\\bnew\\b"),
                 count(code, "\n    private final (int|boolean)\\[\\] \\w+ = new (int|boolean)\\[[A-Z_]+\\];"));
